@@ -1,0 +1,158 @@
+import java.util.ArrayList;
+import java.util.List;
+
+/** What the tests share: answers that are due, exceptions that are due, and an object's whole visible state as text. */
+final class Checks {
+    /** A call of the class whose answer, or exception, is looked at. */
+    interface Call {
+        int run();
+    }
+
+    /** Calls that are made on an object before something is looked at. */
+    interface Scene {
+        void play(StructureRows rows);
+    }
+
+    private final String test;
+    private int made = 0;
+    private int wrong = 0;
+
+    Checks(String test) {
+        this.test = test;
+    }
+
+    /** The answer of a call as text: its number, or throws. and the exception's name (its own class, none above it). */
+    static String answer(Call call) {
+        try {
+            return Integer.toString(call.run());
+        } catch (RuntimeException e) {
+            return "throws." + e.getClass().getSimpleName();
+        }
+    }
+
+    void same(String what, Object got, Object want) {
+        made++;
+        if (!want.equals(got)) {
+            wrong++;
+            System.out.println(test + ": " + what + " answered " + got + ", due is " + want);
+        }
+    }
+
+    void due(String what, int want, Call call) {
+        same(what, answer(call), Integer.toString(want));
+    }
+
+    void noElement(String what, Call call) {
+        same(what, answer(call), "throws.NoSuchElementException");
+    }
+
+    void badArgument(String what, Call call) {
+        same(what, answer(call), "throws.IllegalArgumentException");
+    }
+
+    void badIndex(String what, Call call) {
+        same(what, answer(call), "throws.IndexOutOfBoundsException");
+    }
+
+    void full(String what, Call call) {
+        same(what, answer(call), "throws.UnsupportedOperationException");
+    }
+
+    /** All faults that a check finds, as kind:element:number. */
+    void faults(String what, StructureRows rows, String... want) {
+        int count = rows.check();
+        same(what + ", their count", count, want.length);
+        same(what, latestFaults(rows), List.of(want));
+    }
+
+    /** The same, of one kind alone. */
+    void faultsOf(int kind, String what, StructureRows rows, String... want) {
+        rows.check();
+        List<String> got = new ArrayList<>();
+        for (String fault : latestFaults(rows)) {
+            if (fault.startsWith(kind + ":")) {
+                got.add(fault);
+            }
+        }
+        same(what, got, List.of(want));
+    }
+
+    /** The refused call throws what is due, and leaves all as it is in an object that never met it. */
+    void refused(String what, String exception, Scene scene, Scene call) {
+        StructureRows met = new StructureRows();
+        scene.play(met);
+        met.check();
+        same(what, answer(() -> {
+            call.play(met);
+            return 0;
+        }), "throws." + exception);
+        StructureRows spared = new StructureRows();
+        scene.play(spared);
+        spared.check();
+        same(what + ", state behind it", state(met), state(spared));
+    }
+
+    static List<String> latestFaults(StructureRows rows) {
+        return table(i -> rows.fault(i, 0) + ":" + rows.fault(i, 1) + ":" + rows.fault(i, 2));
+    }
+
+    static List<String> walked(StructureRows rows) {
+        return table(i -> rows.at(i, 0) + "/" + rows.at(i, 1) + " in " + rows.at(i, 2));
+    }
+
+    static List<String> outlined(StructureRows rows) {
+        return table(i -> rows.outline(i, 0) + " depth " + rows.outline(i, 1) + " level " + rows.outline(i, 2));
+    }
+
+    static List<String> loose(StructureRows rows) {
+        return table(i -> Integer.toString(rows.untagged(i)));
+    }
+
+    /** Asks by the face alone; the setters come last, since they change what they ask. */
+    static String state(StructureRows rows) {
+        StringBuilder text = new StringBuilder();
+        text.append(latestFaults(rows)).append(walked(rows)).append(outlined(rows)).append(loose(rows));
+        text.append(rows.walk()).append(' ').append(rows.outline(-1, 0)).append(' ').append(rows.untagged(-1));
+        text.append(rows.check()).append(latestFaults(rows));
+        for (int code = 0; code < 200; code++) {
+            text.append(' ').append(rows.parent(code / 20, code % 20));
+        }
+        for (int element = 0; element < 60; element++) {
+            int number = element;
+            String level = answer(() -> rows.heading(number, 1));
+            text.append(' ').append(level);
+            if (level.startsWith("throws")) {
+                break;
+            }
+            text.append(' ').append(rows.words(number, true)).append(' ').append(rows.span(number, 1, 1));
+        }
+        return text.toString();
+    }
+
+    private interface Line {
+        String of(int i);
+    }
+
+    private static List<String> table(Line line) {
+        List<String> lines = new ArrayList<>();
+        for (int i = 0; i < 1000; i++) {
+            try {
+                lines.add(line.of(i));
+            } catch (IndexOutOfBoundsException e) {
+                if (e.getClass() != IndexOutOfBoundsException.class) {
+                    lines.add(e.toString());
+                }
+                return lines;
+            }
+        }
+        return lines;
+    }
+
+    /** Says how it went, and ends with exit code 1 if an answer was wrong. */
+    void end() {
+        System.out.println(test + ": " + made + " answers, " + wrong + " not as due");
+        if (wrong != 0 || made == 0) {
+            System.exit(1);
+        }
+    }
+}
