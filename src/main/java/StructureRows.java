@@ -128,7 +128,6 @@ public final class StructureRows {
     }
 
     public int check() {
-        trail.follow();
         faults.count = 0;
         findElementsWithoutStandard();
         findHeadingsWithoutLevel();
@@ -371,6 +370,7 @@ public final class StructureRows {
     }
 
     private void findOutOfOrder() {
+        trail.follow();
         Arrays.fill(latestPlaces, NONE);
         for (int i = 0; i < trail.parts; i++) {
             int code = trail.partCodes[i];

@@ -108,13 +108,16 @@ final class Checks {
         return table(i -> Integer.toString(rows.untagged(i)));
     }
 
-    /** Asks by the face alone; the setters come last, since they change what they ask. */
+    /**
+     * Asks by the face alone; the setters come last, since they change what they ask. Two pages' parents are enough
+     * beside the walk, and keep the object within its 512 calls.
+     */
     static String state(StructureRows rows) {
         StringBuilder text = new StringBuilder();
         text.append(latestFaults(rows)).append(walked(rows)).append(outlined(rows)).append(loose(rows));
         text.append(rows.walk()).append(' ').append(rows.outline(-1, 0)).append(' ').append(rows.untagged(-1));
         text.append(rows.check()).append(latestFaults(rows));
-        for (int code = 0; code < 200; code++) {
+        for (int code = 0; code < 40; code++) {
             text.append(' ').append(rows.parent(code / 20, code % 20));
         }
         for (int element = 0; element < 60; element++) {

@@ -18,6 +18,7 @@ public final class FaultsTest {
         outOfOrderPages();
         inArtefacts();
         allKindsInOrder();
+        mostFaults();
         latestCheck();
         wrongFaults();
         checks.end();
@@ -211,6 +212,7 @@ public final class FaultsTest {
         checks.faults("other pages' parts may stand between", x, "10:0:0", "10:0:60");
         x.shows(0, 2);
         checks.faults("a later one in order", x, "10:0:0", "10:0:60");
+        checks.faults("each check starts anew", x, "10:0:0", "10:0:60");
     }
 
     private static void inArtefacts() {
@@ -254,6 +256,26 @@ public final class FaultsTest {
         all(x);
         checks.faults("all kinds", x, "1:8:0", "2:9:0", "3:1:2", "4:7:0", "5:2:0", "6:6:0",
                 "7:4:0", "7:5:0", "7:7:0", "7:9:0", "8:9:4", "9:-1:6", "10:8:4");
+    }
+
+    private static void mostFaults() {
+        StructureRows x = new StructureRows();
+        x.element(0, 4);
+        for (int i = 2; i < 60; i++) {
+            x.element(1, 100);
+        }
+        for (int i = 0; i < 41; i++) {
+            x.content(1, 9, 19);
+        }
+        for (int code = 0; code < 200; code++) {
+            x.shows(code / 20, code % 20);
+        }
+        checks.due("each element thrice, forty repeats, all marks but one", 3 * 58 + 40 + 199, x::check);
+        checks.due("the last one's kind", 9, () -> x.fault(412, 0));
+        checks.due("the last one's element", -1, () -> x.fault(412, 1));
+        checks.due("the last one's number", 198, () -> x.fault(412, 2));
+        checks.due("the last one of an element", 59, () -> x.fault(173, 1));
+        checks.badIndex("none behind them", () -> x.fault(413, 0));
     }
 
     private static void latestCheck() {

@@ -62,6 +62,10 @@ final class Model {
         return within(role, 0, 12) || within(role, 100, 119);
     }
 
+    int elements() {
+        return nodes.size();
+    }
+
     int element(int parent, int role) {
         Node up = node(parent);
         need(role != 0 && role(role));

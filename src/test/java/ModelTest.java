@@ -2,10 +2,15 @@
 public final class ModelTest {
     private static final int RUNS = 3000;
     private static final int CALLS = 512;
+    private static final int[][] LIKELY = {{2, 2, 3, 12, 1}, {6, 7, 7, 9, 8}, {4, 5, 5, 12, 3},
+            {100, 101, 102, 103, 119}, {10, 3, 1, 11, 2}, {6, 7, 9, 9, 9}};
     private static final int[] ODD = {-1, 60, 10, 20, 13, 99, 120, 7, 9, Integer.MIN_VALUE, Integer.MAX_VALUE, -2};
 
     private static final Checks checks = new Checks("ModelTest");
     private static long seed = 20261117L;
+    private static int elements;
+    private static int calls;
+    private static int flavour;
 
     public static void main(String[] args) {
         for (int run = 0; run < RUNS; run++) {
@@ -23,109 +28,119 @@ public final class ModelTest {
         return below(60) == 0 ? ODD[below(ODD.length)] : low + below(count);
     }
 
-    // Few of the choices make tables, lists and own roles often enough to meet by themselves: the run's flavour helps.
-    private static int someRole(int flavour) {
-        int[][] likely = {{2, 2, 3, 12, 1}, {6, 7, 7, 9, 8}, {4, 5, 5, 12, 3}, {100, 101, 102, 103, 119}, {10, 3, 1, 11, 2}};
+    // Roles drawn alike seldom make a table of rows of cells, or a list of items: the run's flavour helps.
+    private static int someRole() {
         if (below(4) == 0) {
             return below(3) == 0 ? mostly(100, 20) : mostly(1, 12);
         }
-        return likely[flavour % likely.length][below(5)];
+        return LIKELY[flavour][below(5)];
     }
 
     private static void play(int run) {
         StructureRows x = new StructureRows();
         Model y = new Model();
-        int[] made = {1, 0};
-        StringBuilder trace = new StringBuilder();
-        for (int call = 0; call < CALLS; call++) {
-            int a = below(14);
-            String said = step(x, y, a, run % 6, made);
-            if (said != null) {
-                checks.same("run " + run + ", call " + call, said, "");
-                return;
-            }
+        elements = 1;
+        calls = 0;
+        flavour = run % 6;
+        String told = null;
+        while (calls < CALLS && told == null) {
+            told = step(x, y);
         }
-        checks.same("run " + run, trace.toString(), "");
+        checks.same("run " + run, told == null ? "" : told + " (call " + calls + ")", "");
     }
 
-    private static int parentFor(int flavour, int elements) {
+    private static int someParent() {
         int pick = below(5);
-        return pick == 0 ? 0 : pick == 1 ? mostly(0, elements) : pick == 2 && flavour != 5 ? elements - 1
-                : Math.max(0, elements - 1 - below(4));
+        if (pick < 2) {
+            return pick == 0 ? 0 : mostly(0, elements);
+        }
+        return pick == 2 && flavour != 5 ? elements - 1 : Math.max(0, elements - 1 - below(4));
     }
 
-    private static String step(StructureRows x, Model y, int which, int flavour, int[] made) {
-        int elements = made[0];
+    private static String step(StructureRows x, Model y) {
         int e = mostly(0, elements);
         int page = mostly(0, flavour == 0 ? 10 : 2);
         int mark = mostly(0, 20);
         int i = below(12) - 1 + below(2) * below(60);
         int what = below(30) == 0 ? ODD[below(ODD.length)] : below(3);
-        switch (which) {
-            case 0: case 1: {
-                int up = parentFor(flavour, elements);
-                int role = someRole(flavour);
-                String got = Checks.answer(() -> x.element(up, role));
-                if (!got.startsWith("throws")) {
-                    made[0]++;
-                }
-                return tell("element " + up + " " + role, got, Checks.answer(() -> y.element(up, role)));
-            }
-            case 2: {
-                int from = mostly(100, flavour == 3 ? 5 : 20);
-                int to = below(2) == 0 ? mostly(100, 5) : mostly(0, 13);
-                return tell("map " + from + " " + to, Checks.answer(() -> x.map(from, to)), Checks.answer(() -> y.map(from, to)));
-            }
+        switch (below(15)) {
+            case 0: case 1:
+                return stepElement(x, y, someParent(), someRole());
+            case 2:
+                return stepMap(x, y, mostly(100, flavour == 3 ? 5 : 20),
+                        below(2) == 0 ? mostly(100, 5) : mostly(0, 13));
             case 3: case 4:
-                return tell("content " + e + " " + page + " " + mark, Checks.answer(() -> x.content(e, page, mark)),
-                        Checks.answer(() -> y.content(e, page, mark)));
+                return tell("content " + e + " " + page + " " + mark, () -> x.content(e, page, mark),
+                        () -> y.content(e, page, mark));
             case 5:
-                return tell("shows " + page + " " + mark, Checks.answer(() -> x.shows(page, mark)),
-                        Checks.answer(() -> y.shows(page, mark)));
+                return tell("shows " + page + " " + mark, () -> x.shows(page, mark), () -> y.shows(page, mark));
             case 6:
-                return tell("walk", Checks.answer(x::walk), Checks.answer(y::walk));
+                return tell("walk", x::walk, y::walk);
             case 7:
-                return tell("at " + i + " " + what, Checks.answer(() -> x.at(i, what)), Checks.answer(() -> y.at(i, what)));
+                return tell("at " + i + " " + what, () -> x.at(i, what), () -> y.at(i, what));
             case 8:
-                return tell("parent", Checks.answer(() -> x.parent(page, mark)), Checks.answer(() -> y.parent(page, mark)));
+                return tell("parent " + page + " " + mark, () -> x.parent(page, mark), () -> y.parent(page, mark));
             case 9:
-                return compareChecks(x, y);
-            case 10: {
-                int level = mostly(1, 6);
-                return tell("heading", Checks.answer(() -> x.heading(e, level)), Checks.answer(() -> y.heading(e, level)));
-            }
-            case 11: {
-                boolean has = below(2) == 0;
-                return tell("words", Checks.answer(() -> x.words(e, has)), Checks.answer(() -> y.words(e, has)));
-            }
-            case 12: {
-                int rows = below(3) == 0 ? mostly(1, 8) : mostly(1, 2);
-                int columns = below(3) == 0 ? mostly(1, 8) : mostly(1, 2);
-                return tell("span", Checks.answer(() -> x.span(e, rows, columns)),
-                        Checks.answer(() -> y.span(e, rows, columns)));
-            }
+                return below(3) == 0 ? compareChecks(x, y) : tell("check", x::check, y::check);
+            case 10:
+                return stepHeading(x, y, e, mostly(1, 6));
+            case 11:
+                return stepWords(x, y, e, below(2) == 0);
+            case 12:
+                return stepSpan(x, y, e, mostly(1, below(3) == 0 ? 8 : 2), mostly(1, below(3) == 0 ? 8 : 2));
+            case 13:
+                return tell("outline " + i + " " + what, () -> x.outline(i, what), () -> y.outline(i, what));
             default:
-                String told = tell("outline " + i + " " + what, Checks.answer(() -> x.outline(i, what)),
-                        Checks.answer(() -> y.outline(i, what)));
-                return told != null ? told
-                        : tell("untagged " + i, Checks.answer(() -> x.untagged(i)), Checks.answer(() -> y.untagged(i)));
+                return tell("untagged " + i, () -> x.untagged(i), () -> y.untagged(i));
         }
     }
 
+    private static String stepElement(StructureRows x, Model y, int parent, int role) {
+        String told = tell("element " + parent + " " + role, () -> x.element(parent, role),
+                () -> y.element(parent, role));
+        elements = y.elements();
+        return told;
+    }
+
+    private static String stepMap(StructureRows x, Model y, int role, int to) {
+        return tell("map " + role + " " + to, () -> x.map(role, to), () -> y.map(role, to));
+    }
+
+    private static String stepHeading(StructureRows x, Model y, int element, int level) {
+        return tell("heading " + element + " " + level, () -> x.heading(element, level),
+                () -> y.heading(element, level));
+    }
+
+    private static String stepWords(StructureRows x, Model y, int element, boolean has) {
+        return tell("words " + element + " " + has, () -> x.words(element, has), () -> y.words(element, has));
+    }
+
+    private static String stepSpan(StructureRows x, Model y, int cell, int rows, int columns) {
+        return tell("span " + cell + " " + rows + " " + columns, () -> x.span(cell, rows, columns),
+                () -> y.span(cell, rows, columns));
+    }
+
     private static String compareChecks(StructureRows x, Model y) {
+        String told = tell("check", x::check, y::check);
         int count = y.check();
-        String told = tell("check", Checks.answer(x::check), Integer.toString(count));
         for (int i = -1; i <= count && told == null; i++) {
             for (int what = 0; what < 3 && told == null; what++) {
                 int at = i;
                 int of = what;
-                told = tell("fault " + i + " " + what, Checks.answer(() -> x.fault(at, of)), Checks.answer(() -> y.fault(at, of)));
+                told = tell("fault " + i + " " + what, () -> x.fault(at, of), () -> y.fault(at, of));
             }
         }
         return told;
     }
 
-    private static String tell(String call, String got, String want) {
+    // An object's answers are free behind its 512th call, so none is compared there.
+    private static String tell(String call, Checks.Call onClass, Checks.Call onModel) {
+        if (calls >= CALLS) {
+            return null;
+        }
+        calls++;
+        String got = Checks.answer(onClass);
+        String want = Checks.answer(onModel);
         return got.equals(want) ? null : call + " answered " + got + ", due is " + want;
     }
 }

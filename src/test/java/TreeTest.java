@@ -58,7 +58,8 @@ public final class TreeTest {
 
     private static void wrongElements() {
         for (int parent : new int[] {-1, 3, 60, Integer.MIN_VALUE, Integer.MAX_VALUE}) {
-            checks.refused("element in " + parent, "NoSuchElementException", TreeTest::small, x -> x.element(parent, 3));
+            checks.refused("element in " + parent, "NoSuchElementException", TreeTest::small,
+                    x -> x.element(parent, 3));
             checks.refused("element in " + parent + ", no role", "NoSuchElementException", TreeTest::small,
                     x -> x.element(parent, 0));
         }
@@ -164,8 +165,8 @@ public final class TreeTest {
             checks.refused("a known part of " + element, "NoSuchElementException", TreeTest::small,
                     x -> x.content(element, 1, 1));
         }
-        for (int[] bad : new int[][] {{10, 0}, {-1, 0}, {0, 20}, {0, -1}, {Integer.MAX_VALUE, 1}, {1, Integer.MIN_VALUE},
-                {-1, 21}, {10, -1}, {1 << 30, 4}}) {
+        for (int[] bad : new int[][] {{10, 0}, {-1, 0}, {0, 20}, {0, -1}, {Integer.MAX_VALUE, 1},
+                {1, Integer.MIN_VALUE}, {-1, 21}, {10, -1}, {1 << 30, 4}}) {
             checks.refused("part " + bad[0] + "/" + bad[1], "IllegalArgumentException", TreeTest::small,
                     x -> x.content(1, bad[0], bad[1]));
             checks.refused("parent " + bad[0] + "/" + bad[1], "IllegalArgumentException", TreeTest::small,
