@@ -1,6 +1,6 @@
 /** Runs of 512 calls, made by a counter and not by chance, on the class and on the model: each answer is the same. */
 public final class ModelTest {
-    private static final int RUNS = 3000;
+    private static final int RUNS = 1500;
     private static final int CALLS = 512;
     private static final int[][] LIKELY = {{2, 2, 3, 12, 1}, {6, 7, 7, 9, 8}, {4, 5, 5, 12, 3},
             {100, 101, 102, 103, 119}, {10, 3, 1, 11, 2}, {6, 7, 9, 9, 9}};
@@ -15,6 +15,8 @@ public final class ModelTest {
     public static void main(String[] args) {
         for (int run = 0; run < RUNS; run++) {
             play(run);
+            playTable(run);
+            playParts(run);
         }
         checks.end();
     }
@@ -47,6 +49,48 @@ public final class ModelTest {
             told = step(x, y);
         }
         checks.same("run " + run, told == null ? "" : told + " (call " + calls + ")", "");
+    }
+
+    // Tables that come about by themselves are nearly all uneven by their ends: small ones with small spans are not.
+    private static void playTable(int run) {
+        StructureRows x = new StructureRows();
+        Model y = new Model();
+        elements = 1;
+        calls = 0;
+        String told = stepElement(x, y, 0, 6);
+        int rows = 2 + below(3);
+        for (int row = 0; row < rows && told == null; row++) {
+            int number = elements;
+            told = stepElement(x, y, 1, 7);
+            int cells = below(4);
+            for (int cell = 0; cell < cells && told == null; cell++) {
+                told = stepElement(x, y, number, 8 + below(2));
+            }
+        }
+        while (calls < CALLS && told == null) {
+            told = stepSpan(x, y, 1 + below(elements - 1), 1 + below(3), 1 + below(3));
+            told = told == null ? tell("check", x::check, y::check) : told;
+        }
+        checks.same("table run " + run, told == null ? "" : told + " (call " + calls + ")", "");
+    }
+
+    private static void playParts(int run) {
+        StructureRows x = new StructureRows();
+        Model y = new Model();
+        elements = 1;
+        calls = 0;
+        String told = stepElement(x, y, 0, 3);
+        int pages = 5 + below(6);
+        while (calls < 220 && told == null) {
+            int element = below(2);
+            int page = below(pages);
+            int mark = below(20);
+            told = tell("content " + element + " " + page + " " + mark, () -> x.content(element, page, mark),
+                    () -> y.content(element, page, mark));
+        }
+        told = told == null ? tell("walk", x::walk, y::walk) : told;
+        told = told == null ? compareChecks(x, y) : told;
+        checks.same("parts run " + run, told == null ? "" : told + " (call " + calls + ")", "");
     }
 
     private static int someParent() {
