@@ -1,7 +1,7 @@
 import java.util.ArrayList;
 import java.util.List;
 
-/** What the tests share: answers that are due, exceptions that are due, and an object's whole visible state as text. */
+/** What the tests share: answers that are due, exceptions that are due, and calls that change nothing. */
 final class Checks {
     /** A call of the class whose answer, or exception, is looked at. */
     interface Call {
@@ -11,6 +11,11 @@ final class Checks {
     /** Calls that are made on an object before something is looked at. */
     interface Scene {
         void play(StructureRows rows);
+    }
+
+    /** A call on an object that is handed in. */
+    interface Asked {
+        int of(StructureRows rows);
     }
 
     private final String test;
@@ -79,17 +84,27 @@ final class Checks {
 
     /** The refused call throws what is due, and leaves all as it is in an object that never met it. */
     void refused(String what, String exception, Scene scene, Scene call) {
+        refused(what, exception, scene, Seen.of(scene), call);
+    }
+
+    /** The same, where all that is seen behind the scene alone is known. */
+    void refused(String what, String exception, Scene scene, List<String> untouched, Scene call) {
+        kept(what, "throws." + exception, scene, untouched, x -> {
+            call.play(x);
+            return 0;
+        });
+    }
+
+    /** The call answers what is due (a number, or throws. and a name), and leaves all as it is. */
+    void kept(String what, String answer, Scene scene, List<String> untouched, Asked call) {
         StructureRows met = new StructureRows();
         scene.play(met);
-        met.check();
-        same(what, answer(() -> {
-            call.play(met);
-            return 0;
-        }), "throws." + exception);
-        StructureRows spared = new StructureRows();
-        scene.play(spared);
-        spared.check();
-        same(what + ", state behind it", state(met), state(spared));
+        same(what, answer(() -> call.of(met)), answer);
+        List<String> seen = Seen.of(x -> {
+            scene.play(x);
+            answer(() -> call.of(x));
+        });
+        same(what + ", what it changed", Seen.difference(seen, untouched), "none");
     }
 
     static List<String> latestFaults(StructureRows rows) {
@@ -106,30 +121,6 @@ final class Checks {
 
     static List<String> loose(StructureRows rows) {
         return table(i -> Integer.toString(rows.untagged(i)));
-    }
-
-    /**
-     * Asks by the face alone; the setters come last, since they change what they ask. Two pages' parents are enough
-     * beside the walk, and keep the object within its 512 calls.
-     */
-    static String state(StructureRows rows) {
-        StringBuilder text = new StringBuilder();
-        text.append(latestFaults(rows)).append(walked(rows)).append(outlined(rows)).append(loose(rows));
-        text.append(rows.walk()).append(' ').append(rows.outline(-1, 0)).append(' ').append(rows.untagged(-1));
-        text.append(rows.check()).append(latestFaults(rows));
-        for (int code = 0; code < 40; code++) {
-            text.append(' ').append(rows.parent(code / 20, code % 20));
-        }
-        for (int element = 0; element < 60; element++) {
-            int number = element;
-            String level = answer(() -> rows.heading(number, 1));
-            text.append(' ').append(level);
-            if (level.startsWith("throws")) {
-                break;
-            }
-            text.append(' ').append(rows.words(number, true)).append(' ').append(rows.span(number, 1, 1));
-        }
-        return text.toString();
     }
 
     private interface Line {
