@@ -31,6 +31,7 @@ public final class LimitsTest {
         levels();
         spans();
         walksOfAllLengths();
+        fullestWalks();
         outlinesOfAllLengths();
         untaggedOfAllLengths();
         faultsOfAllLengths();
@@ -210,18 +211,17 @@ public final class LimitsTest {
     /** A part that was told once more, one that was refused, and a mark that is shown, are none of the 100. */
     private static void partsThatDoNotCount() {
         StructureRows x = new StructureRows();
+        x.element(0, 3);
         for (int i = 0; i < 99; i++) {
             int code = i;
             checks.due("part " + i, 1, () -> x.content(0, code / 20, code % 20));
-            if (i % 2 == 0) {
-                checks.due("again", 0, () -> x.content(0, code / 20, code % 20));
-            }
-            checks.noElement("in none", () -> x.content(1, 9, 19));
+            checks.due("again, here or there", 0, () -> x.content(code % 2, code / 20, code % 20));
+            checks.noElement("in none", () -> x.content(2, 9, 19));
             checks.badArgument("no mark", () -> x.content(0, 9, 20));
         }
         checks.due("shown", 1, () -> x.shows(9, 18));
         checks.due("99 are walked", 99, x::walk);
-        checks.due("the 100th", 1, () -> x.content(0, 9, 19));
+        checks.due("the 100th", 1, () -> x.content(1, 9, 19));
         checks.due("100 are walked", 100, x::walk);
         checks.full("the 101st", () -> x.content(0, 9, 18));
     }
@@ -361,6 +361,40 @@ public final class LimitsTest {
                 checks.same("mark of " + i, on(scene, x -> x.at(at, 1)), Integer.toString((199 - i) % 20));
                 checks.same("element of " + i, on(scene, x -> x.at(at, 2)), i < 50 ? "1" : "0");
             }
+        }
+    }
+
+    /** 60 elements and 100 parts at once, all of them in the walk: flat, and as deep as can be. */
+    private static void fullestWalks() {
+        for (int shape = 0; shape < 2; shape++) {
+            StructureRows x = new StructureRows();
+            for (int number = 1; number < 60; number++) {
+                x.element(shape == 0 ? 0 : number - 1, 2);
+                x.heading(number, 1);
+            }
+            for (int i = 0; i < 100; i++) {
+                x.content(i % 60, i / 10, i % 10);
+            }
+            checks.due("all parts", 100, x::walk);
+            checks.due("all headings", 59, () -> x.outline(-1, 0));
+            checks.due("no fault", 0, x::check);
+            for (int i = 0; i < 100; i++) {
+                int at = i;
+                int flat = i < 78 ? 1 + i / 2 : i < 98 ? i - 38 : 0;
+                int deep = i < 20 ? 59 - i : 39 - (i - 20) / 2;
+                checks.due("shape " + shape + ", element of " + i, shape == 0 ? flat : deep, () -> x.at(at, 2));
+            }
+            checks.badIndex("none behind them", () -> x.at(100, 2));
+            StructureRows y = new StructureRows();
+            for (int number = 1; number < 60; number++) {
+                y.element(shape == 0 ? 0 : number - 1, 1);
+            }
+            for (int i = 0; i < 100; i++) {
+                y.content(59, i / 10, i % 10);
+            }
+            checks.due("the last element's alone", 100, y::walk);
+            checks.due("the first of them", 0, () -> 20 * y.at(0, 0) + y.at(0, 1));
+            checks.due("the last of them", 189, () -> 20 * y.at(99, 0) + y.at(99, 1));
         }
     }
 
